@@ -19,7 +19,7 @@ public final class BoatTrim {
     private static final char[] KIND_SIGNS = {'c', 'k', 'w', 'g', 'f'};
 
     private static final int BY_WEIGHT = 0, BY_UP = 1, BY_NAMES = 2, BALANCED = 3;
-    private static final int PUT = 0, MOVE = 1, TAKE = 2, FILL = 3, WET = 4, ACT_WORDS = 5;
+    private static final int PUT = 0, MOVE = 1, TAKE = 2, FILL = 3, WET = 4;
 
     private final Boat boat = new Boat();
     private final Boat kept = new Boat();
@@ -889,8 +889,10 @@ public final class BoatTrim {
         }
 
         private boolean isSo(Boat boat, Orders orders) {
-            orders.arrange(boat, BY_WEIGHT);
             int weight = boat.allWeight();
+            // The first LINE goes by no ORDER, and most weights fail by it.
+            if (wanted > 0 && !isWithin(weight, least[0], most[0])) return false;
+            orders.arrange(boat, BY_WEIGHT);
             for (int i = 0; i < wanted; i++) {
                 if (!isWithin(weight, least[i], most[i])) return false;
                 if (i < boat.cargo.size) weight -= boat.weighsAt(orders.places[i]);
@@ -1005,8 +1007,9 @@ public final class BoatTrim {
         private boolean isWordRead() {
             int start = at;
             while (at < length && isLetterHere()) at++;
-            for (act = 0; act < ACT_WORDS; act++) {
-                if (isWord(wordOf(act), start, at)) return true;
+            for (int i = PUT; i <= WET; i++) {
+                act = i;
+                if (isWord(wordOf(i), start, at)) return true;
             }
             at = start;
             return false;

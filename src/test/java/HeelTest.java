@@ -5,6 +5,7 @@ public final class HeelTest {
         rolling();
         held();
         steady();
+        steadyAtLast();
         noHeel();
         Due.end();
     }
@@ -64,12 +65,60 @@ public final class HeelTest {
         }
     }
 
+    private static void steadyAtLast() {
+        BoatTrim x = new BoatTrim();
+        x.put(1, 0, 9, 0, -20, 0);
+        x.put(2, 1, 166, 0, 0, 0);
+        // 64 times 166 by 332 = 32: each round rolls the CASK one further, from 0 to -20.
+        for (int k = 0; k <= 20; k++) Due.is("17: behind " + k, x.heel(k), 64 * (-180 - 166 * k) / 332);
+        Due.is("18: behind twenty rounds", x.steady(), 20);
+        x.move(2, 0, -1);
+        x.take(1);
+        x.put(1, 0, 1, 0, -14, 0);
+        Due.is("18: behind nineteen rounds", x.steady(), 19);
+        x.take(1);
+        x.put(1, 0, 17, 0, -20, 0);
+        x.move(2, 0, 1);
+        Due.is("18: behind twenty-one", x.steady(), BoatTrim.NOT);
+        theEdgeOfARoll();
+    }
+
+    private static void theEdgeOfARoll() {
+        BoatTrim x = new BoatTrim();
+        x.put(1, 1, 1, 0, 0, 0);
+        x.put(2, 3, 1, 0, 0, 0);
+        x.put(3, 0, 83, 0, 2, 0);
+        // 64 times 166 by 332 = 32.
+        Due.is("17: HEEL 32", x.heel(0), 32);
+        Due.is("8: a CASK by 32", x.goods(1, 6), 1);
+        Due.is("8: a KEG by 32", x.goods(2, 6), 2);
+        x.move(1, 0, -1);
+        Due.is("17: HEEL 31", x.heel(0), 31);
+        Due.is("8: a CASK by 31", x.goods(1, 6), 0);
+        Due.is("8: a KEG by 31", x.goods(2, 6), 0);
+        x.move(3, 0, -4);
+        x.move(1, 0, 0);
+        Due.is("17: HEEL -64", x.heel(0), -64);
+        Due.is("8: a CASK by -64", x.goods(1, 6), -2);
+        Due.is("8: a KEG by -64", x.goods(2, 6), -4);
+        x.move(1, 0, 1);
+        Due.is("17: HEEL -63", x.heel(0), -63);
+        Due.is("8: a CASK by -63", x.goods(1, 6), -1);
+        Due.is("8: a KEG by -63", x.goods(2, 6), -2);
+    }
+
     private static void noHeel() {
         BoatTrim x = new BoatTrim();
         x.put(1, 0, 132, 0, 20, 40);
         // ALOFT 5280 by 16 = 330 of 332.
         Due.is("17: RIGHTING 2", x.told(4), 2);
         Due.is("17: HEEL", x.heel(0), 32 * 2640);
+        Due.is("18: HEEL", x.steady(), 0);
+        x.put(4, 0, 1, 0, 0, 16);
+        Due.is("17: RIGHTING 1", x.told(4), 1);
+        Due.is("17: HEEL by 1", x.heel(0), 64 * 2640);
+        Due.is("18: HEEL by 1", x.steady(), 0);
+        x.take(4);
         x.put(2, 0, 32, 0, 0, 1);
         Due.is("17: RIGHTING 0", x.told(4), 0);
         Due.is("17: no HEEL", x.heel(0), BoatTrim.VOID);

@@ -4,6 +4,7 @@ public final class LandingTest {
         film();
         filmOfNothing();
         fits();
+        fitsTheGreatest();
         fitsWhatSinks();
         fitsNoLine();
         fitsRefuses();
@@ -100,6 +101,22 @@ public final class LandingTest {
         Due.is("26: with its going", x.fits(0, 2, a, 0), 2);
         x.store(0, 1, 51);
         Due.is("26: not with its going", x.fits(0, 2, a, 0), 0);
+    }
+
+    private static void fitsTheGreatest() {
+        BoatTrim x = new BoatTrim();
+        for (int i = 0; i < 4; i++) x.section(i, 16, 0);
+        for (int i = 1; i <= 15; i++) x.put(i, 0, i, 0, 0, 0);
+        x.put(16, 0, 999, 0, 0, 0);
+        // WATER 64 a draught: LINE is ALL WEIGHT, 1219 with all aboard.
+        x.film(0);
+        Due.is("26: LINES", Desk.row(x, 0), "1219 220 205 191 178 166 155 145 136 128 121 115 110 106 103 101 100");
+        Due.is("26: by seventeen, the greatest", x.fits(0, 17, 16, 1), 999);
+        Due.is("26: by seventeen, how many", x.fits(0, 17, 16, 0), 1);
+        Due.is("26: by seventeen, of the least", x.fits(0, 17, 1, 1), 1);
+        x.store(0, 16, 101);
+        Due.is("26: by sixteen", x.fits(0, 16, 16, 0), 1);
+        Due.is("26: not by seventeen", x.fits(0, 17, 16, 0), 0);
     }
 
     private static void fitsWhatSinks() {

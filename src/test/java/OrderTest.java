@@ -4,6 +4,7 @@ public final class OrderTest {
         order();
         balanced();
         turn();
+        turnToTheRight();
         turnNot();
         change();
         changeNot();
@@ -75,6 +76,21 @@ public final class OrderTest {
         Due.is("24: a FELT", x.turn(), Desk.name("d"));
     }
 
+    private static void turnToTheRight() {
+        BoatTrim x = new BoatTrim();
+        Desk.put(x, "a", 0, 10, 0, -5, 0);
+        Desk.put(x, "b", 0, 6, 0, -4, 0);
+        Desk.put(x, "c", 0, 6, 0, 4, 0);
+        Desk.put(x, "d", 0, 3, 0, -2, 0);
+        // ASIDE -56: a makes 44, b -8, c -104, d -44.
+        Due.is("24: to the right", x.turn(), Desk.name("b"));
+        x.take(Desk.name("d"));
+        Due.is("24: behind one that went", x.turn(), Desk.name("b"));
+        x.take(Desk.name("b"));
+        // ASIDE -26: a makes 74, c -74.
+        Due.is("24: none is less", x.turn(), BoatTrim.NOT);
+    }
+
     private static void turnNot() {
         BoatTrim x = new BoatTrim();
         Due.is("24: nothing aboard", x.turn(), BoatTrim.NOT);
@@ -110,6 +126,7 @@ public final class OrderTest {
         Due.is("25: change(2)", x.change(2), BoatTrim.BAD);
         Due.is("25: SECTIONS stay", x.goods(Desk.name("d"), 2), 1);
         changeByTheOther();
+        changeOfTheLast();
     }
 
     private static void changeByTheOther() {
@@ -127,6 +144,20 @@ public final class OrderTest {
         x.move(Desk.name("b"), 0, 0);
         // ALONG 400: all ways are down.
         Due.is("25: none helps", x.change(0), BoatTrim.NOT);
+    }
+
+    private static void changeOfTheLast() {
+        BoatTrim x = new BoatTrim();
+        x.hull(2);
+        Desk.put(x, "a", 0, 10, 1, 0, 0);
+        Desk.put(x, "b", 0, 10, 1, 0, 0);
+        Desk.put(x, "c", 0, 30, 1, 0, 0);
+        Desk.put(x, "d", 0, 10, 0, 0, 0);
+        // ALL WEIGHT 160, ALONG 200: c-d 40 less, and that is level; a, b, d are like ones.
+        Due.is("25: the one", x.change(0), Desk.name("c"));
+        Due.is("25: the other", x.change(1), Desk.name("d"));
+        x.take(Desk.name("d"));
+        Due.is("25: behind one that went", x.change(0), BoatTrim.NOT);
     }
 
     private static void changeNot() {

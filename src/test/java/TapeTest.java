@@ -78,7 +78,8 @@ public final class TapeTest {
 
     private static void faultsOfWords() {
         BoatTrim x = new BoatTrim();
-        String[] atTheStart = {"", " ", ";", "-", "5", "puts a", "pu", "pu a", "p", "tak", "wett 1", "Put a", "load a", " wet 1", "putput", "weta"};
+        String[] atTheStart = {"", " ", ";", "-", "5", "puts a", "pu", "pu a", "p", "tak", "wett 1", "Put a", "load a", " wet 1", "putput", "weta",
+            "pet 1", "aut a", "bake a", "fell 0 0", "wes 1", "xet 1"};
         for (String text : atTheStart) fault(x, text, 0);
         fault(x, "puT a", 0);
         fault(x, "putT a", 3);

@@ -6,6 +6,7 @@ public final class WaterTest {
         line();
         off();
         trim();
+        trimOfSteepWater();
         trimOfLikeOnes();
         itSinks();
         grounded();
@@ -29,11 +30,24 @@ public final class WaterTest {
         Due.is("12: the least RISE", x.told(7), 0);
         for (int i = 0; i < 4; i++) x.section(i, 10, 9 - i);
         Due.is("12: the least RISE of the last", x.told(7), 6);
+        x.section(1, 10, 2);
+        Due.is("12: the least RISE of another", x.told(7), 2);
         Due.is("12: told(-1)", x.told(-1), BoatTrim.VOID);
         Due.is("12: told(8)", x.told(8), BoatTrim.VOID);
         x.set(1, 9999);
         Due.is("12: RIGHTING where it sinks", x.told(4), BoatTrim.VOID);
         rightingOfDrySections();
+        whatWentIsNotTold();
+    }
+
+    private static void whatWentIsNotTold() {
+        BoatTrim x = new BoatTrim();
+        x.put(1, 0, 10, 3, -4, 5);
+        x.put(2, 0, 10, 3, -4, 5);
+        x.take(2);
+        x.take(1);
+        int[] due = {100, 300, 0, 0, 332, 0, 0, 0};
+        for (int what = 0; what < 8; what++) Due.is("12: told(" + what + ") of none", x.told(what), due[what]);
     }
 
     private static void rightingOfDrySections() {
@@ -98,6 +112,8 @@ public final class WaterTest {
         y.set(1, 599);
         // 64 too many: the first, which lies 14 below a, has 6.4 less (6 of it, and a is 1274 and 14).
         Due.is("16: a nearly so", y.off(7), 12800 * 6 - 64 * 1198);
+        // By the head: the last has 60 less, and counts 4 times.
+        Due.is("16: a nearly so, by the head", y.off(-7), 12800 * 6 - 60 * 4 - 64 * 1198);
         y.set(1, 601);
         Due.is("16: this slope is none", y.off(7), BoatTrim.VOID);
     }
@@ -128,6 +144,19 @@ public final class WaterTest {
         Due.is("15: trim(3)", x.trim(3), BoatTrim.VOID);
     }
 
+    private static void trimOfSteepWater() {
+        BoatTrim x = new BoatTrim();
+        x.hull(3);
+        x.set(1, 600);
+        // Full to DEEP by each slope b: its a is 1280 and twice b without its sign.
+        for (int b = -20; b <= 20; b++) Due.is("16: full by " + b, x.off(b), 0);
+        x.set(1, 560);
+        x.put(1, 0, 40, 2, 0, 0);
+        Due.is("15: full, b", x.trim(0), 0);
+        Due.is("15: full, a", x.trim(1), 1280);
+        Due.is("15: full, OFF", x.trim(2), 12800 * 6 - 64 * 1280);
+    }
+
     private static void trimOfLikeOnes() {
         BoatTrim x = new BoatTrim();
         x.hull(2);
@@ -137,9 +166,10 @@ public final class WaterTest {
         Due.is("15: its a", x.trim(1), 1280);
         Due.is("15: its OFF", x.trim(2), 0);
         likeOnesBesideZero();
+        theOneBelowZero();
     }
 
-    /** One RISE so high that SECTION 0 alone floats, and b tells how deep it lies. */
+    /** The middle one never wets: the outer ones alone float, and b tells how deep they lie. */
     private static void likeOnesBesideZero() {
         BoatTrim x = new BoatTrim();
         x.hull(3);
@@ -158,6 +188,22 @@ public final class WaterTest {
             boolean isBehind = Math.abs(b) > Math.abs(best) || b == -best && b >= best;
             Due.is("15: " + best + " goes ahead of " + b, less > 0 || b == best || less == 0 && isBehind ? 1 : 0, 1);
         }
+    }
+
+    private static void theOneBelowZero() {
+        BoatTrim x = new BoatTrim();
+        x.hull(3);
+        x.section(0, 16, 0);
+        x.section(1, 34, 0);
+        x.section(2, 10, 0);
+        x.set(1, 1);
+        // By -1 a is 1: 48, 34 and 0; by 1 a is 1: 0, 34 and 30; by 0 a is 2: 32, 68 and 20.
+        Due.is("15: OFF of -1", x.off(-1), 68 - 128);
+        Due.is("15: OFF of 1", x.off(1), 68 + 120 - 128);
+        Due.is("15: OFF of 0", x.off(0), 136 + 80 - 128);
+        Due.is("15: the one below 0", x.trim(0), -1);
+        Due.is("15: its own a", x.trim(1), 1);
+        Due.is("15: its own OFF", x.trim(2), -60);
     }
 
     private static void itSinks() {
