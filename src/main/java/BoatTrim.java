@@ -256,7 +256,8 @@ public final class BoatTrim {
         if (m > rows.size[row]) return OUTSIDE;
         if (m > boat.cargo.size + 1) return STATE;
         landing.want(boat.hull, rows.places[row], m);
-        return what == 0 ? landing.howManyFit(boat, orders, at) : landing.leastThatFits(boat, orders, at);
+        landing.tryWeights(boat, orders, at);
+        return what == 0 ? landing.fitting : landing.leastFitting;
     }
 
     // ---- the report and the tape
@@ -293,7 +294,7 @@ public final class BoatTrim {
         tape.at = 0;
         // Each ACT takes a byte at least, so there are never more than bytes.
         for (int done = 0; done < tape.length; done++) {
-            if (!tape.isActRead() || doAct() < 0) return REFUSED_BASE - done;
+            if (!tape.readsAct() || doAct() < 0) return REFUSED_BASE - done;
             if (!tape.isPartedHere()) return done + 1;
             tape.at++;
         }
@@ -842,6 +843,8 @@ public final class BoatTrim {
         private final int[] least = new int[MOST_GOODS + 1];
         private final int[] most = new int[MOST_GOODS + 1];
         private int wanted = 0;
+        int fitting = 0;
+        int leastFitting = NOT;
 
         /** The ROW has a place more than there are GOODS. */
         void writeLines(Boat boat, Orders orders, int[] row) {
@@ -866,26 +869,19 @@ public final class BoatTrim {
             }
         }
 
-        int howManyFit(Boat boat, Orders orders, int at) {
+        /** Tries each WEIGHT of the one at this place, and leaves it as it was. */
+        void tryWeights(Boat boat, Orders orders, int at) {
             int was = boat.cargo.weight[at];
-            int all = 0;
+            fitting = 0;
+            leastFitting = NOT;
             for (int weight = 1; weight <= MOST_WEIGHT; weight++) {
                 boat.cargo.weight[at] = weight;
-                if (isSo(boat, orders)) all++;
+                if (isSo(boat, orders)) {
+                    if (fitting == 0) leastFitting = weight;
+                    fitting++;
+                }
             }
             boat.cargo.weight[at] = was;
-            return all;
-        }
-
-        int leastThatFits(Boat boat, Orders orders, int at) {
-            int was = boat.cargo.weight[at];
-            int found = NOT;
-            for (int weight = 1; weight <= MOST_WEIGHT && found == NOT; weight++) {
-                boat.cargo.weight[at] = weight;
-                if (isSo(boat, orders)) found = weight;
-            }
-            boat.cargo.weight[at] = was;
-            return found;
         }
 
         private boolean isSo(Boat boat, Orders orders) {
@@ -970,18 +966,18 @@ public final class BoatTrim {
         int length = 0;
         final byte[] bytes = new byte[80];
 
-        /** Where it reads; where it can't go on, there is the FAULT. */
+        /** Where it reads. */
         int at = 0;
 
         /** The ACT read last, and its NAME and numbers as they stand. */
         int act = 0;
         final int[] parts = new int[6];
 
-        /** The place of the FAULT; -1: it is a TEXT. */
+        /** The place of the FAULT; -1: it is a TEXT. What reads leaves `at` there, where it can't go on. */
         int findFault() {
             at = 0;
             for (int i = 0; i <= length; i++) {
-                if (!isActRead()) return at;
+                if (!readsAct()) return at;
                 if (at >= length) return -1;
                 if (!isPartedHere()) return at;
                 at++;
@@ -993,18 +989,18 @@ public final class BoatTrim {
             return isHere(';');
         }
 
-        boolean isActRead() {
-            if (!isWordRead()) return false;
+        boolean readsAct() {
+            if (!readsWord()) return false;
             String shape = shapeOf(act);
             for (int i = 0; i < shape.length() && i < parts.length; i++) {
                 if (!isHere(' ')) return false;
                 at++;
-                if (!isPartRead(i, shape.charAt(i))) return false;
+                if (!readsPart(i, shape.charAt(i))) return false;
             }
             return true;
         }
 
-        private boolean isWordRead() {
+        private boolean readsWord() {
             int start = at;
             while (at < length && isLetterHere()) at++;
             for (int i = PUT; i <= WET; i++) {
@@ -1023,14 +1019,14 @@ public final class BoatTrim {
             return true;
         }
 
-        private boolean isPartRead(int part, char shape) {
-            if (shape == 'a') return isNameRead(part);
+        private boolean readsPart(int part, char shape) {
+            if (shape == 'a') return readsName(part);
             boolean isLess = shape == '-' && isHere('-');
             if (isLess) at++;
-            return isNumberRead(part, isLess ? -1 : 1);
+            return readsNumber(part, isLess ? -1 : 1);
         }
 
-        private boolean isNameRead(int part) {
+        private boolean readsName(int part) {
             int name = 0;
             int letters = 0;
             for (; at < length && isLetterHere(); at++) {
@@ -1042,7 +1038,7 @@ public final class BoatTrim {
             return letters > 0;
         }
 
-        private boolean isNumberRead(int part, int sign) {
+        private boolean readsNumber(int part, int sign) {
             int number = 0;
             int figures = 0;
             for (; at < length && isFigureHere(); at++) {
