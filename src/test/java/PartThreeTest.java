@@ -13,6 +13,7 @@ public final class PartThreeTest {
         turnOfLikeOnes();
         turnOfNone();
         changeIsLess();
+        changeJustLess();
         changeOfLikeOnes();
         changeOfNone();
         linesOfALanding();
@@ -196,6 +197,31 @@ public final class PartThreeTest {
         x.set(2, 0);
         // The FELT WEIGHS 11: b-d 2 more, a-d, c-d 18 less.
         Due.is("25: dry", x.change(0) * 100 + x.change(1), 104);
+    }
+
+    /** One more or less of ALONG than what makes it as far on the other side. */
+    private static void changeJustLess() {
+        BoatTrim x = new BoatTrim();
+        x.hull(2);
+        for (int i = 0; i < 2; i++) x.section(i, 16, 0);
+        Desk.put(x, "a", CASE, 20, 0, 0, 0);
+        Desk.put(x, "b", CASE, 10, 1, 0, 0);
+        Desk.put(x, "c", CASE, 1, 0, 0, 0);
+        // OFF is 64 times what is in SECTION 0 less what is in SECTION 1: 11; a-b makes -9.
+        Due.is("16: OFF", x.off(0), 64 * 11);
+        Due.is("25: just less", x.change(0) * 100 + x.change(1), 102);
+        x.move(Desk.name("c"), 1, 0);
+        // 9; a-b makes -11.
+        Due.is("16: OFF with c astern", x.off(0), 64 * 9);
+        Due.is("25: just not less", x.change(0), NOT);
+        x.move(Desk.name("c"), 0, 0);
+        x.move(Desk.name("a"), 1, 0);
+        x.move(Desk.name("b"), 0, 0);
+        // -9; a-b makes 11, a-c 29.
+        Due.is("25: just not less, by the stern", x.change(0), NOT);
+        x.move(Desk.name("c"), 1, 0);
+        // -11; a-b makes 9.
+        Due.is("25: just less, by the stern", x.change(0) * 100 + x.change(1), 102);
     }
 
     /** "of like ones the first by NAMES (the one, then the other)" */

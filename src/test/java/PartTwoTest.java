@@ -299,6 +299,7 @@ public final class PartTwoTest {
         Due.is("17: RIGHTING 2", x.heel(0), 64 * 132 / 2);
         x.put(2, CASE, 16, 0, 0, 1);
         Due.is("17: RIGHTING 1", x.heel(0), 64 * 132);
+        Due.is("18: RIGHTING 1", x.steady(), 0);
         x.put(3, CASE, 16, 0, 0, 1);
         Due.is("12: RIGHTING 0", x.told(4), 0);
         for (int k = 0; k <= 20; k++) Due.is("17: RIGHTING 0, heel(" + k + ")", x.heel(k), VOID);

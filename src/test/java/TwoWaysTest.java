@@ -158,7 +158,14 @@ public final class TwoWaysTest {
         Due.is("22: the first", x.order(3, 0), 2);
         Due.is("22: the second", x.order(3, 1), 1);
         Due.is("22: the last", x.order(3, 2), 3);
-        Due.is("22: of one alone", new BoatTrim().order(3, 0), NOT);
+        // As far to either side, and as heavy: by NAMES, for neither side has any ahead.
+        for (int side = -5; side <= 5; side += 10) {
+            BoatTrim y = new BoatTrim();
+            y.put(1, CASE, 1, 0, side, 0);
+            y.put(2, CASE, 1, 0, -side, 0);
+            Due.is("22: of two as far, the first at " + side, y.order(3, 0), 1);
+        }
+        Due.is("22: of none", new BoatTrim().order(3, 0), NOT);
     }
 
     /** "Where LINE is NOT, GROUNDED is STATE, LIGHTEN goes by ALL WEIGHT as told all the same." */
